@@ -1178,7 +1178,7 @@ public final class OrnamentsOut {
 
         private void openNote(int note) {
             if (kept && tones + MOST_TONES_OF_NOTE > pitches.length) {
-                int rows = 2 * pitches.length + MOST_TONES_OF_NOTE;
+                int rows = Math.min(2 * pitches.length + MOST_TONES_OF_NOTE, MOST_NOTES * MOST_TONES_OF_NOTE);
                 pitches = Arrays.copyOf(pitches, rows);
                 owners = Arrays.copyOf(owners, rows);
                 begins = Arrays.copyOf(begins, rows);
