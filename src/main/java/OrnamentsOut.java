@@ -1277,6 +1277,8 @@ public final class OrnamentsOut {
         private int percent = 0;
         private int index = 0;
         private Note note = null;
+        /** The one behind, if it is a note. */
+        private Note next = null;
         /** T of the NOTE. */
         private int tone = 0;
         /** R: what BODY has of the NOTE's time. */
@@ -1338,6 +1340,7 @@ public final class OrnamentsOut {
         private void writeNote(int i) {
             index = i;
             note = song.notes[i];
+            next = song.playedNote(i + 1);
             score.openNote(i);
             if (note.isRest()) {
                 score.addRest(note.length);
@@ -1535,7 +1538,6 @@ public final class OrnamentsOut {
             if (note.behind == AFTERBEAT) {
                 return true;
             }
-            Note next = song.playedNote(index + 1);
             return terms[AFTER] == 1 && next != null && numberOf(next.pitch) == numberOf(pitches[UPPER]);
         }
 
@@ -1570,7 +1572,6 @@ public final class OrnamentsOut {
             if (note.behind != ANTICIPATION) {
                 return 0;
             }
-            Note next = song.playedNote(index + 1);
             if (next == null || 2 * tone > score.latestLength) {
                 return AWAY;
             }

@@ -93,6 +93,11 @@ public final class NotesTest {
         Checks.due("from -1", x.borrowed(0, -1, 0), -2);
         Checks.due("what 2", x.borrowed(0, 0, 2), -2);
         Checks.due("none such", x.borrowed(4, 0, 0), -2);
+        Checks.text(x, "note c4 1/4;");
+        Checks.dueFraction("a NOTE of a former text doesn't count", x.borrowed(0, 2, 0), x.borrowed(0, 2, 1), 0, 1);
+        OrnamentsOut full = Checks.song("meter16/1;" + "note c4 1/4;".repeat(48));
+        Checks.dueFraction("behind the 48th", full.borrowed(47, 2, 0), full.borrowed(47, 2, 1), 0, 1);
+        x = Checks.song("note c4 1/4; note d4 1/4 gr e4 f4;");
         x.terms(2, 0);
         Checks.dueFraction("AHEAD 0: from itself", x.borrowed(1, 0, 0), x.borrowed(1, 0, 1), 1, 16);
         Checks.dueFraction("AHEAD 0: not ahead", x.borrowed(1, 1, 0), x.borrowed(1, 1, 1), 0, 1);

@@ -25,6 +25,13 @@ public final class TextTest {
         Checks.due("feed again", x.feed(0x72657374, 0x20312f34, 0x3b6e6f74, 0x65206334, 0x20312f38), 20);
         Checks.due("first 9 of 'rest 1/4;note c4 1/8'", x.text(9), 1);
         Checks.due("the rest of THE TAPE is gone", x.count(3), 0);
+        for (int n = 0; n <= 13; n++) {
+            Checks.feed(x, "rest 1/16;key");
+            int due = n == 0 ? 0 : n == 10 ? 1 : -31;
+            Checks.due("a text ends where n says: " + n, x.text(n), due);
+            int word = n < 4 ? 0 : n;
+            Checks.due("its place", x.fault(1), due >= 0 ? -1 : n > 10 && n < 13 ? 10 : word);
+        }
         x.feed(0xff000000, 0, 0, 0, 0);
         Checks.due("a byte above 127 can't stand", x.text(1), -31);
     }
@@ -75,6 +82,10 @@ public final class TextTest {
         Checks.dueFault("key -3", 1, 6);
         Checks.dueFault("key;", 1, 3);
         Checks.dueFault("speed\t60;", 1, 5);
+        Checks.dueFault("speed x;", 1, 6);
+        Checks.dueFault("rest a/4;", 1, 5);
+        Checks.dueFault("rest 1/four;", 1, 7);
+        Checks.dueFault("note c4 1/4 5;", 1, 12);
         OrnamentsOut x = Checks.song("  note   c+4 1 / 4gr d4e4tr up+down - nb ;key-0;");
         Checks.due("blanks stand between all, or nowhere", x.note(0, 0), 61);
         Checks.due("two GRACES", x.note(0, 3), 2);
