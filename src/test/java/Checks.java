@@ -4,15 +4,21 @@ import java.nio.charset.StandardCharsets;
 final class Checks {
     private static int wrong = 0;
     private static int asked = 0;
+    private static String about = "";
 
     private Checks() {
+    }
+
+    /** What the answers from here on are about; told with each that is wrong. */
+    static void about(String what) {
+        about = what + "\n    ";
     }
 
     static void due(String call, long got, long want) {
         asked++;
         if (got != want) {
             wrong++;
-            System.out.println(call + " answered " + got + ", due is " + want);
+            System.out.println(about + call + " answered " + got + ", due is " + want);
         }
     }
 
@@ -91,7 +97,7 @@ final class Checks {
         asked++;
         if (!got.equals(want)) {
             wrong++;
-            System.out.println("tones are " + got + "\n    due are " + want);
+            System.out.println(about + "tones are " + got + "\n    due are " + want);
         }
     }
 
