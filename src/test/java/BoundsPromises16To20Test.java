@@ -67,6 +67,26 @@ public final class BoundsPromises16To20Test {
         }
     }
 
+    private static void promise16AsManyAsCanBe() {
+        Sentences.of(16, "Of TONE k (0 on),");
+        StringBuilder text = new StringBuilder("meter16/1;speed20;");
+        for (int i = 0; i < 48; i++) {
+            text.append(i % 2 == 0 ? "note c4 8/1dc;" : "note d4 8/1dc;");
+        }
+        x = Checks.song(text.toString());
+        x.terms(1, 64);
+        x.terms(4, 1);
+        // c by turns with d: 2 that join, 64 turns, and the AFTERBEAT where the next NOTE is UPPER.
+        int most = 24 * 68 + 24 * 66;
+        Checks.due("TONES", x.count(1), most);
+        dueSounds(0, 59, 2, 0, 6, 3, 0, 0);
+        dueSounds(67, 60, 0, 0, 0, 4, 0, 0);
+        dueSounds(68, 60, 2, 1, 0, 4, 0, 0);
+        dueSounds(most - 1, 62, 0, 47, 1, 4, 0, 23);
+        dueWhen(most - 1, 24 * 16 * 64 - 512 + 65, 64, 447, 64);
+        Checks.due("none behind", x.sounds(most, 0), -100);
+    }
+
     private static void promise16Codes() {
         Sentences.of(16, "-100: there is none such, what.");
         x = Checks.song("note c4 1/4 mo;rest 1/4;");
@@ -173,6 +193,10 @@ public final class BoundsPromises16To20Test {
         }
         x = Checks.song("meter 16/1;note a4 16/1;" + "tie16/1;".repeat(95));
         Checks.due("far behind", x.at(1536 * 10000 - 1, 10000), 0);
+        x = Checks.song("note c4 1/4;note d4 1/4;note e4 1/4;");
+        Checks.due("TONE 1", x.at(3, 8), 1);
+        Checks.text(x, "note c4 1/4;rest 1/2;");
+        Checks.due("a TONE of a former text sounds no more", x.at(3, 8), -1);
     }
 
     private static void promise19Codes() {
@@ -209,6 +233,10 @@ public final class BoundsPromises16To20Test {
         dueBar(3, 0, 0, 1, 4, 1, 4);
         dueBar(4, 0, 1, 1, 4, 0, 1);
         dueBar(5, 1, 2, 1, 4, 1, 8);
+        x = Checks.song("note c4 1/4;note d4 3/4;");
+        dueBar(0, 2, 2, 1, 1, 1, 1);
+        Checks.text(x, "note c4 1/4;rest 3/4;");
+        dueBar(0, 1, 2, 1, 1, 1, 4);
         x = Checks.song("note c4 1/1;");
         dueBar(0, 1, 1, 1, 1, 1, 1);
         x = Checks.song("rest 1/32;");
@@ -239,6 +267,7 @@ public final class BoundsPromises16To20Test {
 
     public static void main(String[] args) {
         promise16OfATone();
+        promise16AsManyAsCanBe();
         promise16Codes();
         promise17BeginAndLength();
         promise17Codes();

@@ -108,6 +108,32 @@ public final class BoundsPromises1To9Test {
         Checks.due("nb, too", x.note(0, 4), 0);
     }
 
+    /** A fresh object and one that had other texts, with and without a FAULT, ahead of the same one. */
+    private static void promise3NothingOfFormerTexts() {
+        Sentences.of(3, "are the TEXT (TERMS stay): how many NOTES.");
+        String former = "key 3;speed 300;meter 2/1;note d+4 1/8 gr e+4 f4 tr up+ down- nb;tie 1/8;note c4 1/32 sl mo an;note e4 1/4 ap f4;"
+            + "tie 1/4;tie 1/4;note c4 31/32 gr d4;meter 1/16;note d4 1/16;";
+        String[] texts = {"", "rest 1/4;", "note c4 1/8;", "note c4 1/8;rest 1/8;", "note c4 1/8;note e4 1/8 gr f4;rest 1/4;rest 1/4;"};
+        for (String text : texts) {
+            Snapshot fresh = new Snapshot(() -> Checks.song(text));
+            for (int many = 1; many <= 3; many++) {
+                int times = many;
+                fresh.dueAlike("'" + text + "' behind " + many + " texts", () -> {
+                    OrnamentsOut one = new OrnamentsOut();
+                    for (int i = 0; i < times; i++) {
+                        Checks.due("the former text", Checks.text(one, former), 5);
+                        one.fastest();
+                        one.count(1);
+                        Checks.text(one, "note c4 1/4 tr up+ up-;");
+                    }
+                    Checks.feed(one, text);
+                    one.text(text.length());
+                    return one;
+                });
+            }
+        }
+    }
+
     private static void promise3NBelow0OrAboveWhatThereIs() {
         Sentences.of(3, "-3: n is below 0, above what there is (THE TAPE stays);");
         x = new OrnamentsOut();
@@ -197,6 +223,7 @@ public final class BoundsPromises1To9Test {
             String was = Checks.tones(x);
             x.terms(what, others[what]);
             Checks.holds("TERM " + what + " makes other TONES", !Checks.tones(x).equals(was));
+            Checks.due("TONE 0 still begins at 0", x.when(0, 0, 0), 0);
         }
     }
 
@@ -276,6 +303,12 @@ public final class BoundsPromises1To9Test {
                 }
             }
         }
+        x = Checks.song("note c4 1/8 tu;");
+        Checks.dueTones(x, "d4 1/32, c4 1/32, b3 1/32, c4 1/32");
+        x.sign(0, 1, 1);
+        Checks.dueTones(x, "d+4 1/32, c4 1/32, b3 1/32, c4 1/32");
+        x.sign(0, 0, -1);
+        Checks.dueTones(x, "d+4 1/32, c4 1/32, b-3 1/32, c4 1/32");
         x = Checks.song("note c4 1/4 tr up- down=;note c4 1/4 mo down+;");
         Checks.due("told by the text", x.sign(0, 1, 2), -1);
         Checks.due("told by the text", x.sign(0, 0, 2), 0);
@@ -349,6 +382,7 @@ public final class BoundsPromises1To9Test {
             for (int was = 0; was <= 2; was++) {
                 for (int is = 0; is <= 2; is++) {
                     x = Checks.song("note c4 3/4 " + BODIES[body] + (was == 0 ? "" : was == 1 ? " nb" : " an") + ";note e4 1/4;");
+                    Checks.due("VERDICT ahead of it", x.note(0, 13), was == 0 ? 0 : was == 1 ? 1 : 3);
                     Checks.due("after(0, " + is + ")", x.after(0, is), was);
                     Checks.due("it stands", x.note(0, 4), is);
                     Checks.due("VERDICT", x.note(0, 13), is == 0 ? 0 : is == 1 ? 1 : 3);
@@ -394,6 +428,7 @@ public final class BoundsPromises1To9Test {
         promise2TwentyBytesTheHighestFirst();
         promise2MoreThan800();
         promise3TheFirstNBytes();
+        promise3NothingOfFormerTexts();
         promise3NBelow0OrAboveWhatThereIs();
         promise3AFault();
         promise4OfTheLatestText();

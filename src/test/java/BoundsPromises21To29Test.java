@@ -121,6 +121,11 @@ public final class BoundsPromises21To29Test {
         dueFastest("note c4 1/4;", 250, 400);
         x = Checks.song("note c4 3/16 mo;rest 1/4;note c4 3/32 mo;");
         Checks.due("of all NOTES", x.fastest(), 107);
+        x = Checks.song("note c4 3/32;note c4 1/32 mo;");
+        Checks.due("by none", x.fastest(), -1);
+        Checks.text(x, "rest 1/4;");
+        Checks.text(x, "note c4 3/32;");
+        Checks.due("a NOTE of a former text doesn't count", x.fastest(), 400);
         x = Checks.song("rest 1/4;");
         Checks.due("of a rest", x.fastest(), 400);
         Checks.due("of no NOTES", new OrnamentsOut().fastest(), 400);
@@ -246,6 +251,10 @@ public final class BoundsPromises21To29Test {
         Checks.due("below 76: three; 75 at SPEED 400, too", x.quick(), 4);
         x.terms(5, 25);
         Checks.due("75 by PERCENT 25: but 1/32 at 400", x.quick(), 1);
+        for (int fast = 0; fast < 20; fast++) {
+            x = Checks.song("note c4 1/32;".repeat(fast) + "speed 400;note c4 1/32;speed 100;" + "note c4 1/32;".repeat(19 - fast));
+            Checks.due("NOTE " + fast + " alone", x.quick(), 1);
+        }
         // GRACES ahead go by the SPEED of their own NOTE, that of an by the one it is behind.
         x = Checks.song("speed 20;note c4 1/1 an;speed 400;note d4 1/4;");
         Checks.due("a TONE of an at SPEED 20: T there isn't QUICK", x.quick(), 0);
@@ -268,6 +277,10 @@ public final class BoundsPromises21To29Test {
         Checks.due("from the one ahead", x.greediest(), 5);
         x = Checks.song("note c4 1/4 gr d4;note d4 1/4 gr e4 f4;note c4 1/4 gr d4 d4 d4;");
         Checks.due("the most, not the first", x.greediest(), 2);
+        x = Checks.song("note c4 1/4;note d4 1/4 gr e4;");
+        Checks.due("NOTE 1", x.greediest(), 1);
+        Checks.text(x, "note c4 1/4;");
+        Checks.due("a NOTE of a former text doesn't count", x.greediest(), -1);
     }
 
     private static void promise28None() {

@@ -252,6 +252,12 @@ public final class BoundsTextTest {
         cant("ke y 1;", 0);
         cant("Key 1;", 0);
         cant("keY 1;", 0);
+        cant("keya 1;", 0);
+        cant("keyz 1;", 0);
+        cant("akey 1;", 0);
+        cant("zkey 1;", 0);
+        cant("note cz4 1/4;", 5);
+        cant("note ca4 1/4;", 5);
         cant("ke`1;", 0);
         cant("key{1;", 3);
         cant("key`1;", 3);
@@ -403,6 +409,12 @@ public final class BoundsTextTest {
                     Checks.due(text, x.length(0, 0) * lower, upper * x.length(0, 1));
                 }
             }
+            good("meter 16/1;rest 1/" + lower + ";", 1);
+            good("meter 16/1;note c4 1/1;tie 1/" + lower + ";", 1);
+            if (lower > 1) {
+                good("meter 16/1;rest 32/" + lower + ";", 1);
+                good("meter 16/1;note c4 16/1;tie 32/" + lower + ";", 1);
+            }
             outOfBounds("rest 0/" + lower + ";", 5);
             outOfBounds("rest 33/" + lower + ";", 5);
             outOfBounds("note c4 0/" + lower + ";", 8);
@@ -515,6 +527,11 @@ public final class BoundsTextTest {
         int[] byKey = {60, 60, 66, 73, 61};
         for (int i = 0; i < byKey.length; i++) {
             Checks.due("number of " + i + " with KEYS", x.note(i, 0), byKey[i]);
+        }
+        x = Checks.song("note c+0 1/8;note c0 1/8;note b-8 1/8;note b8 1/8;note c1 1/8;note b7 1/8;");
+        int[] atTheEnds = {13, 13, 118, 118, 24, 107};
+        for (int i = 0; i < atTheEnds.length; i++) {
+            Checks.due("number of " + i + " at the ends", x.note(i, 0), atTheEnds[i]);
         }
         x = Checks.song("note c4 1/4 gr c+4 c4;note c4 1/4 ap c-4;note c4 1/4 gr c4 c=4 c4;note c4 1/4;");
         int[] byPrefix = {60, 61, 59, 60};
@@ -636,6 +653,10 @@ public final class BoundsTextTest {
             wrongLine("note c4 1/4 tr " + twice + ";", 0);
             wrongLine("note c4 1/4 mo " + twice + " an;", 0);
         }
+        OrnamentsOut x = new OrnamentsOut();
+        Checks.due("told twice", Checks.text(x, "note c4 1/4 tr up+up+;"), -33);
+        Checks.due("the next text tells none", Checks.text(x, "note c4 1/4;"), 1);
+        Checks.due("nor once", Checks.text(x, "note c4 1/4 tr up+;note c4 1/4 tr up+;"), 2);
     }
 
     private static void aFifthP() {

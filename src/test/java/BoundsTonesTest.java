@@ -438,6 +438,9 @@ public final class BoundsTonesTest {
         of("if not so many fit into that: without AFTERBEAT (of nb: nb is AWAY).");
         due("note c4 5/32 tr nb;", "d4 1/32, c4 1/32, d4 1/32, c4 1/16", 0, 0, 1, 3);
         due("note c4 4/32 tr nb;", UPUP, 0, 0, 1, 3);
+        due("note c4 6/32 tr nb;rest 1/32;note c4 5/32 tr nb;", UPUP + ", " + LP + ", d4 1/32, c4 1/32, d4 1/32, c4 1/16", 2, 0, 1, 3);
+        due("note c4 6/32 dc nb;rest 1/32;note c4 6/32 tr nb;", LP + ", " + UPUP + ", " + UPUP + ", " + LP, 2, 0, 1, 1);
+        Checks.dueVerdicts(x, 0, 0, 1, 3);
         due("note d4 1/8;note c4 4/32 tr nb;", "d4 1/8, c4 1/32, d4 1/32, c4 1/16", 1, 0, 1, 3);
         song("note c4 5/32 tr;note d4 1/8;");
         x.terms(4, 1);
@@ -585,6 +588,10 @@ public final class BoundsTonesTest {
         due("note c4 5/32 gr e4 f4 g4 pr an;", "f4 1/32, g4 1/32, c4 1/32, d4 1/32, c4 1/32", 0, 2, 2, 3);
         Checks.due("VERDICTS 2", x.count(4), 2);
         Checks.due("VERDICTS 3", x.count(5), 1);
+        song("note c4 1/32;note c4 1/32 sl mo an;");
+        Checks.dueVerdicts(x, 1, 3, 3, 3);
+        Checks.text(x, "note c4 1/32;rest 1/32;");
+        Checks.dueVerdicts(x, 1, 0, 0, 0);
     }
 
     private static void kinds() {

@@ -4,8 +4,8 @@ import java.util.function.Supplier;
 import java.util.function.ToLongFunction;
 
 /**
- * Asks whether a call changed anything: of two objects that were made alike one gets the call, then both are asked all that
- * the face can tell. No object is used for more calls than the document promises answers for.
+ * Asks whether two objects are alike in all that the face can tell; above all whether a call changed anything: of two that
+ * were made alike one gets the call, then both are asked. No object is used for more calls than the document promises answers for.
  */
 final class Snapshot {
     private static final int ASKED_OF_ONE = 300;
@@ -119,14 +119,27 @@ final class Snapshot {
         compare(told, call, want, changes);
     }
 
+    /** An object that was made otherwise must tell the same. */
+    void dueAlike(String told, Supplier<OrnamentsOut> other) {
+        for (int from = 0; from < questions.size(); from += ASKED_OF_ONE) {
+            List<ToLongFunction<OrnamentsOut>> asked = questions.subList(from, Math.min(from + ASKED_OF_ONE, questions.size()));
+            Checks.holds(told, areAlike(made.get(), other.get(), asked));
+        }
+        Checks.holds(told, areAlike(made.get(), other.get(), changes));
+    }
+
     private void compare(String told, ToLongFunction<OrnamentsOut> call, long want, List<ToLongFunction<OrnamentsOut>> asked) {
         OrnamentsOut without = made.get();
         OrnamentsOut with = made.get();
         Checks.due(told, call.applyAsLong(with), want);
+        Checks.holds(told + " changes nothing", areAlike(without, with, asked));
+    }
+
+    private static boolean areAlike(OrnamentsOut one, OrnamentsOut other, List<ToLongFunction<OrnamentsOut>> asked) {
         boolean alike = true;
-        for (ToLongFunction<OrnamentsOut> one : asked) {
-            alike &= one.applyAsLong(without) == one.applyAsLong(with);
+        for (ToLongFunction<OrnamentsOut> question : asked) {
+            alike &= question.applyAsLong(one) == question.applyAsLong(other);
         }
-        Checks.holds(told + " changes nothing", alike);
+        return alike;
     }
 }
