@@ -73,12 +73,17 @@ public final class BoundsPromises16To20Test {
         for (int i = 0; i < 48; i++) {
             text.append(i % 2 == 0 ? "note c4 8/1dc;" : "note d4 8/1dc;");
         }
-        x = Checks.song(text.toString());
-        x.terms(1, 64);
-        x.terms(4, 1);
         // c by turns with d: 2 that join, 64 turns, and the AFTERBEAT where the next NOTE is UPPER.
         int most = 24 * 68 + 24 * 66;
-        Checks.due("TONES", x.count(1), most);
+        for (int from = 0; from < most; from += 400) {
+            x = Checks.song(text.toString());
+            x.terms(1, 64);
+            x.terms(4, 1);
+            Checks.due("TONES", x.count(1), most);
+            for (int k = from; k < from + 400 && k < most; k++) {
+                Checks.due("NOTE of TONE " + k, x.sounds(k, 2), k / 134 * 2 + (k % 134 < 68 ? 0 : 1));
+            }
+        }
         dueSounds(0, 59, 2, 0, 6, 3, 0, 0);
         dueSounds(67, 60, 0, 0, 0, 4, 0, 0);
         dueSounds(68, 60, 2, 1, 0, 4, 0, 0);
