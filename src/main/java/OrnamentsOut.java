@@ -544,11 +544,15 @@ public final class OrnamentsOut {
         return what == 1 ? lowerNumber(time) : NO_SUCH;
     }
 
+    /** WHOLE has no prime but 2, so that halving finds the lowest terms. */
     private static int upperNumber(int time) {
-        return time / (WHOLE / lowerNumber(time));
+        int upper = time;
+        for (int lower = WHOLE; lower > 1 && upper % 2 == 0; lower /= 2) {
+            upper /= 2;
+        }
+        return upper;
     }
 
-    /** WHOLE has no prime but 2, so that halving finds the lowest terms. */
     private static int lowerNumber(int time) {
         int lower = WHOLE;
         for (int rest = time; lower > 1 && rest % 2 == 0; rest /= 2) {
